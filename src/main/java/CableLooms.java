@@ -367,6 +367,8 @@ public final class CableLooms {
         int made = 0;
         final int[] one = new int[MOST_DUCTS];
         final int[] other = new int[MOST_DUCTS];
+        // Both places as bits.
+        final int[] ends = new int[MOST_DUCTS];
         final int[] lengths = new int[MOST_DUCTS];
         final int[] rooms = new int[MOST_DUCTS];
         // Kept in this order so that a least tree can take ducts as they come.
@@ -376,6 +378,7 @@ public final class CableLooms {
             int duct = made;
             one[duct] = a;
             other[duct] = b;
+            ends[duct] = 1 << a | 1 << b;
             lengths[duct] = length;
             rooms[duct] = room;
             sortIn(duct);
@@ -623,7 +626,7 @@ public final class CableLooms {
             return ducts.other[duct] == at ? priceBack[duct] : BLOCKED;
         }
 
-        // A second way that goes back through a duct of the first one frees both of it, so that
+        // Where a second way goes back through a duct of the first one, neither needs it, so that
         // direction gives its price back; the first way's own direction is taken.
         private void turnSteps(int start) {
             int at = start;
@@ -701,6 +704,9 @@ public final class CableLooms {
         }
 
         private void note(int chosen, int length) {
+            if (length == NO_NET) {
+                return;
+            }
             least = Math.min(least, length);
             for (int place = 0; place < PLACES; place++) {
                 if (!has(chosen, place) && length < leastWithout[place]) {
@@ -726,15 +732,13 @@ public final class CableLooms {
         }
 
         private boolean joins(int duct, int chosen) {
-            int a = ducts.one[duct];
-            int b = ducts.other[duct];
-            if (!has(chosen, a) || !has(chosen, b)) {
+            if ((ducts.ends[duct] & ~chosen) != 0) {
                 return false;
             }
-            int headOfA = headOf(a);
-            int headOfB = headOf(b);
-            joinedTo[headOfA] = headOfB;
-            return headOfA != headOfB;
+            int one = headOf(ducts.one[duct]);
+            int other = headOf(ducts.other[duct]);
+            joinedTo[one] = other;
+            return one != other;
         }
 
         private int headOf(int place) {
