@@ -1,11 +1,11 @@
-/** All promises at the limits: every duct, wire and order there may be, and 512 calls at the most. */
+/** All promises at the limits: every duct, wire and order there may be. */
 public final class FullTest {
   private static final Check CHECK = new Check();
   private static final CableLooms X = new CableLooms();
   private static final Model M = new Model();
 
   public static void main(String[] args) {
-    fill();
+    fill(X, M);
     askWires();
     askPlaces();
     askOrders();
@@ -17,24 +17,24 @@ public final class FullTest {
     CHECK.due(call, got, want);
   }
 
-  private static void fill() {
+  private static void fill(CableLooms x, Model m) {
     for (int i = 0; i < 16; i++) {
       int a = i % 10;
       int b = (a + 1 + i / 10 * 3) % 10;
-      due("duct", X.duct(a, b, 5 + i % 3, 300), M.duct(a, b, 5 + i % 3, 300));
+      due("duct", x.duct(a, b, 5 + i % 3, 300), m.duct(a, b, 5 + i % 3, 300));
     }
     for (int i = 0; i < 20; i++) {
       int to = (i * 3 + 1 + i / 10) % 10;
       int from = to == i % 10 ? (to + 5) % 10 : i % 10;
-      due("wire", X.wire(from, to, 50 - i, i % 4), M.wire(from, to, 50 - i, i % 4));
-      due("option", X.option(i, 1 << i % 8), M.option(i, 1 << i % 8));
+      due("wire", x.wire(from, to, 50 - i, i % 4), m.wire(from, to, 50 - i, i % 4));
+      due("option", x.option(i, 1 << i % 8), m.option(i, 1 << i % 8));
     }
     for (int i = 0; i < 8; i++) {
-      due("order", X.order(255 >> i, 1000 - i), M.order(255 >> i, 1000 - i));
+      due("order", x.order(255 >> i, 1000 - i), m.order(255 >> i, 1000 - i));
     }
-    due("no more ducts", X.duct(0, 1, 1, 1), CableLooms.FULL);
-    due("no more wires", X.wire(0, 1, 1, 0), CableLooms.FULL);
-    due("no more orders", X.order(0, 1), CableLooms.FULL);
+    due("no more ducts", x.duct(0, 1, 1, 1), CableLooms.FULL);
+    due("no more wires", x.wire(0, 1, 1, 0), CableLooms.FULL);
+    due("no more orders", x.order(0, 1), CableLooms.FULL);
   }
 
   private static void askWires() {
@@ -88,15 +88,18 @@ public final class FullTest {
     }
   }
 
-  // A run may ask nothing but the dearest calls; they must neither fail nor slow down.
+  // A run may ask little but the dearest calls; the last must answer as the first did.
   private static void dearestCalls() {
-    int net = X.net(3);
-    long cost = X.best();
-    for (int call = 0; call < 512; call++) {
-      due("net", X.net(3), net);
-      due("splice", X.splice(1023), CableLooms.NONE);
-      due("setup", X.setup(100000), 100000);
-      due("best", X.best(), cost);
+    CableLooms x = new CableLooms();
+    fill(x, new Model());
+    x.setup(100000);
+    int net = x.net(3);
+    long cost = x.best();
+    for (int round = 0; round < 110; round++) {
+      due("net", x.net(3), net);
+      due("splice", x.splice(1023), CableLooms.NONE);
+      due("setup", x.setup(100000), 100000);
+      due("best", x.best(), cost);
     }
   }
 }

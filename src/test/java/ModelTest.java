@@ -5,7 +5,7 @@
  */
 public final class ModelTest {
   private static final Check CHECK = new Check();
-  private static final int RUNS = 400;
+  private static final int RUNS = 500;
   private static final int[] ODD = {-1, -2, 4, 8, 10, 16, 20, 51, 99, 100, 101, 256, 300, 301, 1000,
       1001, 1024, 100000, 100001, Integer.MIN_VALUE, Integer.MAX_VALUE};
 
@@ -16,6 +16,7 @@ public final class ModelTest {
   // How wide the numbers of a run are spread; 1 makes all lengths, pieces and the like one.
   private int spread;
   private int places;
+  private int callsMade = 0;
 
   public static void main(String[] args) {
     for (int run = 0; run < RUNS; run++) {
@@ -54,14 +55,15 @@ public final class ModelTest {
     for (int i = 0; i < ducts; i++) {
       ask(0, run);
     }
-    int calls = 60 + draw(400);
-    for (int i = 0; i < calls; i++) {
+    int calls = 60 + draw(420);
+    while (callsMade < calls) {
       ask(1 + draw(27), run);
     }
   }
 
   private void ask(int which, int run) {
     long[] answers = which < 15 ? askWays(which) : askOrders(which);
+    callsMade++;
     CHECK.due("run " + run + ": " + call, answers[0], answers[1]);
   }
 
@@ -172,6 +174,7 @@ public final class ModelTest {
         return both("pin", x.pin(pin, net), m.pin(pin, net));
       case 24: {
         // Pins are brought together again, so that tests become few.
+        callsMade += 15;
         long wrong = 0;
         for (int p = 0; p < 16; p++) {
           int to = net & 6 | (p + pin) & 1;
@@ -180,6 +183,7 @@ public final class ModelTest {
         return both("pins", wrong, 0);
       }
       case 25:
+        callsMade++;
         return both("tests and pairs", x.tests() * 100 + x.pairs(net), m.tests() * 100 + m.pairs(net));
       case 26: {
         int test = number(0, 2);
