@@ -275,7 +275,7 @@ public final class DuctsTest {
   private static void promise5LayTheLongestWay() {
     CableLooms x = new CableLooms();
     for (int place = 0; place < 9; place++) {
-      x.duct(place + 1, place, 99, 50);
+      x.duct(place + 1, place, 99, 100);
     }
     x.wire(9, 0, 50, 1);
     due("5: all places", x.lay(0), 891);
@@ -283,8 +283,13 @@ public final class DuctsTest {
       due("5: all places", x.way(0, i), 8 - i);
     }
     due("5: all places", x.way(0, 9), CableLooms.NONE);
+    x.wire(0, 9, 50, 1);
+    due("5: all places, back", x.lay(1), 891);
+    for (int i = 0; i < 9; i++) {
+      due("5: all places, back", x.way(1, i), i);
+    }
     x.wire(0, 1, 1, 1);
-    due("5: full everywhere", x.lay(1), CableLooms.NONE);
+    due("5: full everywhere", x.lay(2), CableLooms.NONE);
   }
 
   private static void promise6Lift() {

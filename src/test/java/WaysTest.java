@@ -40,7 +40,13 @@ public final class WaysTest {
     due("12: whatever is laid", x.far(0, 9), 11);
     x.duct(9, 0, 10, 1);
     due("12: shorter", x.far(0, 9), 10);
-    due("12: by two others", x.far(1, 9), 6);
+    due("12: the other two are longer", x.far(1, 9), 6);
+    CableLooms y = new CableLooms();
+    for (int place = 0; place < 9; place++) {
+      y.duct(place, place + 1, 99, 1);
+    }
+    due("12: all places", y.far(0, 9), 891);
+    due("12: all places, back", y.far(9, 0), 891);
   }
 
   private static void promise13TwoRefuses() {
