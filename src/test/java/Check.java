@@ -2,12 +2,22 @@
 final class Check {
   private int wrong = 0;
   private int asked = 0;
+  private int sentences = 0;
+  private int askedBefore = 0;
+  private String sentence = "";
+
+  /** What follows tests this sentence of the document; a sentence without an answer is a fault. */
+  void sentence(String words) {
+    endSentence();
+    sentence = words + " | ";
+    sentences++;
+  }
 
   void due(String call, long got, long want) {
     asked++;
     if (got != want) {
       wrong++;
-      System.out.println(call + " answered " + got + ", due is " + want);
+      System.out.println(sentence + call + " answered " + got + ", due is " + want);
     }
   }
 
@@ -15,14 +25,24 @@ final class Check {
     asked++;
     if (!holds) {
       wrong++;
-      System.out.println("does not hold: " + what);
+      System.out.println(sentence + "does not hold: " + what);
     }
   }
 
   void end() {
-    System.out.println(asked + " answers, " + wrong + " not as due");
+    endSentence();
+    String of = sentences == 0 ? "" : " of " + sentences + " sentences";
+    System.out.println(asked + " answers" + of + ", " + wrong + " not as due");
     if (wrong != 0 || asked == 0) {
       System.exit(1);
     }
+  }
+
+  private void endSentence() {
+    if (sentences > 0 && asked == askedBefore) {
+      wrong++;
+      System.out.println(sentence + "nothing was asked");
+    }
+    askedBefore = asked;
   }
 }
