@@ -31,6 +31,7 @@ public final class BoundsOrdersTest {
     weightNotLaidToo();
     bestWithoutOrders();
     bestLeastAndMost();
+    bestAfterEachCall();
     bestSetupForEachLoom();
     loomUnknown();
     loomFewest();
@@ -324,10 +325,36 @@ public final class BoundsOrdersTest {
     }
   }
 
+  private static void bestAfterEachCall() {
+    CHECK.sentence("20: THE BEST PLAN, asked again after each call that changes it or is refused");
+    CableLooms x = new CableLooms();
+    x.setup(10);
+    x.order(1, 2);
+    due("no wires", x.best(), 10);
+    x.wire(0, 1, 3, 0);
+    due("a wire", x.best(), 16);
+    x.option(0, 256);
+    due("an option that is refused", x.best(), 16);
+    x.option(0, 2);
+    due("an option", x.best(), 10);
+    x.option(0, 1);
+    due("another option", x.best(), 16);
+    x.order(1, 1001);
+    due("an order that is refused", x.best(), 16);
+    x.order(1, 1000);
+    due("an order", x.best(), 3016);
+    x.setup(100001);
+    due("a setup that is refused", x.best(), 3016);
+    x.setup(0);
+    due("a setup", x.best(), 3006);
+    x.wire(0, 1, 51, 0);
+    due("a wire that is refused", x.best(), 3006);
+  }
+
   private static void bestSetupForEachLoom() {
     CHECK.sentence("20: a SETUP for each LOOM");
-    // Orders 0 .. 7 need a wire each; a loom for two of them costs 2 * 2 * 30 more than two looms
-    // save, so that the setup at which they come together can be told.
+    // Each order needs a wire of 30 of its own: two in one loom cost a setup less, and 60 more by
+    // the wires that they do not need.
     CableLooms x = new CableLooms();
     for (int i = 0; i < 8; i++) {
       x.wire(0, 1, 30, 0);
@@ -339,6 +366,9 @@ public final class BoundsOrdersTest {
     due("loom(7)", x.loom(7), 7);
     x.setup(60);
     due("like costs", x.best(), 8 * 60 + 8 * 30);
+    for (int i = 0; i < 8; i++) {
+      due("like costs, the fewest looms: loom(" + i + ")", x.loom(i), i / 2);
+    }
     x.setup(61);
     due("two and two", x.best(), 4 * 61 + 8 * 60);
     x.setup(100000);

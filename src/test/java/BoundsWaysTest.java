@@ -297,6 +297,15 @@ public final class BoundsWaysTest {
       y.duct(i % 2, 1 - i % 2, 99 - i, 1);
     }
     due("the shortest of sixteen, which came last", y.net(3), 84);
+    // The short ducts come behind and between the long ones.
+    CableLooms z = new CableLooms();
+    int[] lengths = {9, 4, 7, 2, 8, 1, 6, 3, 5, 4, 9, 2, 7, 1, 8, 3};
+    for (int i = 0; i < 16; i++) {
+      z.duct(i % 5, (i % 5 + 1 + i / 10) % 5, lengths[i], 1);
+      z.net(0b11111);
+    }
+    // Ducts 5 (0-1: 1), 13 (3-0: 1), 3 (3-4: 2) and 7 (2-3: 3); 11 (1-3: 2) joins nothing more.
+    due("the shortest that join five places", z.net(0b11111), 7);
   }
 
   private static void netOfAllPlaces() {
