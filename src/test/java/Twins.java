@@ -47,7 +47,7 @@ final class Twins {
         after.equals(without));
   }
 
-  // Some 300 calls, so that with those that were told there are less than 512.
+  // Some 380 calls, so that with those that were told there are less than 512.
   private static List<Long> allAnswers(CableLooms x) {
     List<Long> all = new ArrayList<>();
     askCounts(x, all);
@@ -56,6 +56,7 @@ final class Twins {
     askOrders(x, all);
     takeOver(x, all);
     askCounts(x, all);
+    makeMore(x, all);
     return all;
   }
 
@@ -101,7 +102,7 @@ final class Twins {
     }
   }
 
-  // What can be asked only by telling something new, and what is made next.
+  // What can be asked only by telling something new.
   private static void takeOver(CableLooms x, List<Long> all) {
     for (int pin = 0; pin < 16; pin++) {
       all.add((long) x.pin(pin, pin % 3));
@@ -112,14 +113,43 @@ final class Twins {
     all.add((long) x.setup(7));
     for (int one = 0; one < 4; one++) {
       for (int other = one + 1; other < 4; other++) {
-        all.add((long) x.apart(one, other, one == 0));
+        all.add((long) x.apart(one, other, false));
       }
     }
+    for (int wire = 0; wire < 20; wire++) {
+      all.add((long) x.lift(wire));
+    }
+    layEachAlone(x, all);
+    layAllTogether(x, all);
+  }
+
+  // Asked last: on a full object these are refused themselves, and would leave the same behind.
+  private static void makeMore(CableLooms x, List<Long> all) {
     all.add((long) x.duct(0, 9, 2, 100));
     all.add((long) x.wire(0, 9, 2, 0));
     all.add((long) x.order(3, 2));
+  }
+
+  // Shows where each wire goes from and to.
+  private static void layEachAlone(CableLooms x, List<Long> all) {
     for (int wire = 0; wire < 20; wire++) {
-      all.add((long) (wire % 2 == 0 ? x.lift(wire) : x.lay(wire)));
+      all.add((long) x.lay(wire));
+      all.add((long) x.way(wire, 0));
+      all.add((long) x.lift(wire));
+    }
+  }
+
+  // Shows the class of each wire.
+  private static void layAllTogether(CableLooms x, List<Long> all) {
+    for (int wire = 0; wire < 20; wire++) {
+      all.add((long) x.lay(wire));
+    }
+    for (int one = 0; one < 4; one++) {
+      for (int other = one + 1; other < 4; other++) {
+        x.apart(one, other, true);
+        all.add((long) x.clashes());
+        x.apart(one, other, false);
+      }
     }
   }
 }
