@@ -7,6 +7,7 @@ import java.lang.reflect.Modifier;
 import java.nio.file.Files;
 import java.nio.file.Path;
 import java.util.Arrays;
+import java.util.List;
 import java.util.Set;
 import java.util.TreeSet;
 import java.util.regex.Pattern;
@@ -28,7 +29,9 @@ public final class FaceTest {
     constants();
     methods();
     insideClasses();
+    sizes();
     words();
+    methodLengths();
     CHECK.end();
   }
 
@@ -84,6 +87,42 @@ public final class FaceTest {
             || Modifier.isFinal(field.getModifiers()));
       }
     }
+  }
+
+  private static void sizes() {
+    Set<String> publicNames = new TreeSet<>();
+    for (String signature : FACE) {
+      publicNames.add(signature.replaceAll(".* (\\w+)\\(.*", "$1"));
+    }
+    for (Class<?> one : CableLooms.class.getDeclaredClasses()) {
+      for (Method method : one.getDeclaredMethods()) {
+        CHECK.isTrue(method + " is not private with a public one's name",
+            isSeen(method) || !publicNames.contains(method.getName()));
+        CHECK.isTrue(method + " takes at most seven", method.getParameterCount() <= 7);
+      }
+      int fields = 0;
+      for (Field field : one.getDeclaredFields()) {
+        fields += Modifier.isStatic(field.getModifiers()) ? 0 : 1;
+      }
+      CHECK.isTrue(one.getName() + " has at most twenty fields: " + fields, fields <= 20);
+    }
+  }
+
+  private static void methodLengths() throws IOException {
+    int began = -1;
+    int methods = 0;
+    List<String> lines = Files.readAllLines(Path.of("src/main/java/CableLooms.java"));
+    for (int i = 0; i < lines.size(); i++) {
+      if (lines.get(i).matches("( {4}| {8})\\w.*\\) \\{") && began < 0) {
+        began = i;
+      }
+      if (began >= 0 && lines.get(i).equals(lines.get(began).replaceAll("\\S.*", "") + "}")) {
+        CHECK.isTrue("at most sixty lines: " + lines.get(began), i - began < 60);
+        began = -1;
+        methods++;
+      }
+    }
+    CHECK.isTrue("methods were found: " + methods, methods > FACE.size() && began < 0);
   }
 
   private static void words() throws IOException {
