@@ -35,6 +35,7 @@ public final class BoundsOrdersTest {
     bestSetupForEachLoom();
     loomUnknown();
     loomFewest();
+    loomFewestAheadOfLesserNumbers();
     loomLesserNumber();
     loomAsTheyAreMet();
     alikeFew();
@@ -418,6 +419,42 @@ public final class BoundsOrdersTest {
     y.setup(11);
     due("less by one in one", y.best(), 31);
     due("loom(1)", y.loom(1), 0);
+  }
+
+  private static void loomFewestAheadOfLesserNumbers() {
+    CHECK.sentence("21: of like ones the one of the fewest LOOMS; of like ones, the lesser number");
+    // 0 and 1 together, 2, 3: 5 + 2 * 3, 5 + 4 * 4, 5 + 3 * 7. As due: 5 + 5 * 4, 5 + 4 * 7.
+    CableLooms x = ofTwoWires(3, 4, 5);
+    x.order(0, 1);
+    x.order(1, 1);
+    x.order(2, 4);
+    x.order(3, 3);
+    due("like costs", x.best(), 58);
+    int[] looms = {0, 1, 0, 1};
+    for (int i = 0; i < 4; i++) {
+      due("loom(" + i + ")", x.loom(i), looms[i]);
+    }
+    // 0 and 2 together, 1, 3: 4 + 2 * 2, 4 + 4 * 3, 4 + 4 * 5. As due: 4 + 5 * 5, 4 + 5 * 3.
+    CableLooms y = ofTwoWires(3, 2, 4);
+    y.order(2, 1);
+    y.order(1, 4);
+    y.order(0, 1);
+    y.order(3, 4);
+    due("like costs", y.best(), 48);
+    int[] others = {0, 1, 1, 0};
+    for (int i = 0; i < 4; i++) {
+      due("loom(" + i + ")", y.loom(i), others[i]);
+    }
+  }
+
+  private static CableLooms ofTwoWires(int first, int second, int setup) {
+    CableLooms x = new CableLooms();
+    x.wire(0, 1, first, 0);
+    x.wire(0, 1, second, 0);
+    x.option(0, 1);
+    x.option(1, 2);
+    x.setup(setup);
+    return x;
   }
 
   private static void loomLesserNumber() {
